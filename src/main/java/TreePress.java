@@ -507,6 +507,7 @@ public final class TreePress {
     private static final class Specs {
         static final int MOST = 30;
         static final int MOST_PLACES = 40;
+        static final long ALL_PLACES = -1L;
         static final int EMPTY = 0;
         static final int ANY = 1;
         static final int MIXED = 2;
@@ -517,8 +518,10 @@ public final class TreePress {
         // How many RULES were told ahead of it, so that declarations can be judged as they stand.
         final int[] rulesAhead = new int[MOST];
         final int[] places = new int[MOST];
-        final int[] nameAt = new int[MOST * MOST_PLACES];
-        final long[] followers = new long[MOST * MOST_PLACES];
+        private final int[] nameAt = new int[MOST * MOST_PLACES];
+        private final long[] followers = new long[MOST * MOST_PLACES];
+        // Of each place, the earlier ones of the same NAME.
+        private final long[] twins = new long[MOST * MOST_PLACES];
         final long[] first = new long[MOST];
         final long[] last = new long[MOST];
         final byte[] mayBeEmpty = new byte[MOST];
@@ -547,6 +550,7 @@ public final class TreePress {
             if (place >= MOST_PLACES) {
                 return NONE;
             }
+            twins[spec * MOST_PLACES + place] = named(spec, ALL_PLACES, name);
             nameAt[spec * MOST_PLACES + place] = name;
             followers[spec * MOST_PLACES + place] = 0;
             places[spec]++;
@@ -585,8 +589,7 @@ public final class TreePress {
         /** Whether two places of a set have the same NAME. */
         boolean repeats(int spec, long set) {
             for (int place = 0; place < places[spec]; place++) {
-                boolean among = (set >>> place & 1) != 0;
-                if (among && Long.bitCount(named(spec, set, nameAt[spec * MOST_PLACES + place])) > 1) {
+                if ((set >>> place & 1) != 0 && (set & twins[spec * MOST_PLACES + place]) != 0) {
                     return true;
                 }
             }
@@ -1404,7 +1407,7 @@ public final class TreePress {
             if (specs.kind[spec] == Specs.GROUP && !specs.isDeterministic(spec)) {
                 report(2, spec);
             }
-            if (specs.kind[spec] == Specs.MIXED && specs.repeats(spec, -1L)) {
+            if (specs.kind[spec] == Specs.MIXED && specs.repeats(spec, Specs.ALL_PLACES)) {
                 report(3, spec);
             }
         }
@@ -1542,7 +1545,8 @@ public final class TreePress {
             for (int child = doc.firstIn(k); child < doc.end[k]; child = doc.behind(child)) {
                 if (doc.kind[child] == ELEMENT) {
                     int name = doc.nameOf[child];
-                    boolean fine = any ? doc.names.specOf(name) != NONE : doc.specs.named(spec, -1L, name) != 0;
+                    boolean fine = any ? doc.names.specOf(name) != NONE
+                            : doc.specs.named(spec, Specs.ALL_PLACES, name) != 0;
                     if (!fine) {
                         return false;
                     }
@@ -1869,7 +1873,8 @@ public final class TreePress {
             if (length == NONE) {
                 return true;
             }
-            return doc.to[k] - doc.from[k] == length && doc.hasBytes(k, path.quotedBytes(), path.quotedFrom[bracket]);
+            return doc.to[k] - doc.from[k] == length
+                    && doc.hasBytes(k, path.quotedBytes(), path.quotedFrom[bracket]);
         }
     }
 
