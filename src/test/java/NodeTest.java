@@ -1,0 +1,70 @@
+/** Promises 5, 6 and 7: node, name and string. */
+public final class NodeTest {
+    private static final String TEXT = "<!DOCTYPE doc [<!ATTLIST b lang CDATA 'en' n CDATA '7' o CDATA #IMPLIED>]>"
+            + "<doc id='q'>one<b n='&lt;'>two<!--x-->three</b><c/> <d><e>f</e></d></doc>";
+
+    public static void main(String[] args) {
+        Desk desk = Desk.taken(TEXT, 14);
+        facts(desk);
+        names(desk);
+        strings(desk);
+        edges(desk);
+        Desk.end();
+    }
+
+    private static void facts(Desk desk) {
+        int[][] due = {
+            {0, -1, 0, 13, 0, 1, 0},
+            {1, 0, 3, 13, 1, 5, 0},
+            {2, 1, 2, 1, 0, 0, 0},
+            {3, 1, 0, 3, 0, 0, 0},
+            {1, 1, 1, 8, 2, 2, 0},
+            {2, 4, 1, 1, 0, 0, 0},
+            {2, 4, 4, 2, 0, 0, 1},
+            {3, 4, 0, 3, 0, 0, 0},
+            {3, 4, 0, 5, 0, 0, 0},
+            {1, 1, 1, 0, 0, 0, 0},
+            {3, 1, 0, 1, 0, 0, 0},
+            {1, 1, 1, 1, 0, 1, 0},
+            {1, 11, 1, 1, 0, 1, 0},
+            {3, 12, 0, 1, 0, 0, 0},
+        };
+        for (int k = 0; k < due.length; k++) {
+            for (int what = 0; what < 7; what++) {
+                Desk.due("node(" + k + ", " + what + ")", desk.press.node(k, what), due[k][what]);
+            }
+        }
+    }
+
+    private static void names(Desk desk) {
+        String[] due = {"", "doc", "id", "", "b", "n", "lang", "", "", "c", "", "d", "e", ""};
+        for (int k = 0; k < due.length; k++) {
+            Desk.due("NAME of " + k, desk.name(k), due[k]);
+        }
+    }
+
+    private static void strings(Desk desk) {
+        String[] due = {"onetwothree f", "onetwothree f", "q", "one", "twothree", "<", "en", "two", "three", "", " ",
+            "f", "f", "f"};
+        for (int k = 0; k < due.length; k++) {
+            Desk.due("STRING of " + k, desk.string(k), due[k]);
+        }
+    }
+
+    private static void edges(Desk desk) {
+        int[] wild = {-1, 14, 600, Integer.MAX_VALUE, Integer.MIN_VALUE};
+        for (int k : wild) {
+            Desk.due("node " + k, desk.press.node(k, 0), -9);
+            Desk.due("name " + k, desk.press.name(k, 0), -1);
+            Desk.due("string " + k, desk.press.string(k, 0), -1);
+            Desk.due("name byte " + k, desk.press.name(1, k), -1);
+            Desk.due("string byte " + k, desk.press.string(2, k), -1);
+        }
+        Desk.due("what 7", desk.press.node(0, 7), -9);
+        Desk.due("what -1", desk.press.node(0, -1), -9);
+        Desk.due("last byte of a NAME", desk.press.name(1, 2), 'c');
+        Desk.due("behind a NAME", desk.press.name(1, 3), -1);
+        Desk.due("last byte of a STRING", desk.press.string(0, 12), 'f');
+        Desk.due("behind a STRING", desk.press.string(0, 13), -1);
+    }
+}
