@@ -856,11 +856,6 @@ public final class TreePress {
             return k + 1 + attributes[k];
         }
 
-        /** The NODE behind k and all that is in it. */
-        int behind(int k) {
-            return Math.max(k + 1, end[k]);
-        }
-
         int attributeOf(int k, int name) {
             for (int i = k + 1; i <= k + attributes[k]; i++) {
                 if (nameOf[i] == name) {
@@ -1300,7 +1295,7 @@ public final class TreePress {
 
         private boolean readText(Doc doc) {
             int text = NONE;
-            for (int turn = 0; turn < cursor.size + 1 && cursor.peek() != '<'; turn++) {
+            for (int turn = 0; turn <= cursor.size && cursor.peek() != '<'; turn++) {
                 int begin = cursor.here;
                 boolean byReference = cursor.peek() == '&';
                 int b = cursor.takePiece();
@@ -1542,7 +1537,7 @@ public final class TreePress {
         /** For ANY and '#PCDATA', where the order of what is within does not matter. */
         private boolean fitsLoosely(Doc doc, int k, int spec) {
             boolean any = doc.specs.kind[spec] == Specs.ANY;
-            for (int child = doc.firstIn(k); child < doc.end[k]; child = doc.behind(child)) {
+            for (int child = doc.firstIn(k); child < doc.end[k]; child = Math.max(child + 1, doc.end[child])) {
                 if (doc.kind[child] == ELEMENT) {
                     int name = doc.nameOf[child];
                     boolean fine = any ? doc.names.specOf(name) != NONE
@@ -1559,7 +1554,7 @@ public final class TreePress {
             Specs specs = doc.specs;
             long awaited = specs.first[spec];
             boolean mayEnd = specs.mayBeEmpty[spec] != 0;
-            for (int child = doc.firstIn(k); child < doc.end[k]; child = doc.behind(child)) {
+            for (int child = doc.firstIn(k); child < doc.end[k]; child = Math.max(child + 1, doc.end[child])) {
                 if (doc.kind[child] == ELEMENT) {
                     long places = specs.named(spec, awaited, doc.nameOf[child]);
                     if (places == 0) {
@@ -1824,7 +1819,7 @@ public final class TreePress {
         }
 
         private void leadInto(Doc doc, int k, int kind, int name) {
-            for (int i = doc.firstIn(k); i < doc.end[k]; i = doc.behind(i)) {
+            for (int i = doc.firstIn(k); i < doc.end[k]; i = Math.max(i + 1, doc.end[i])) {
                 if (doc.kind[i] == kind && (name == Path.ALL || doc.nameOf[i] == name)) {
                     push(i);
                 }
@@ -1859,7 +1854,7 @@ public final class TreePress {
                 int attribute = doc.attributeOf(k, name);
                 return attribute != NONE && isQuoted(doc, path, bracket, attribute);
             }
-            for (int i = doc.firstIn(k); i < doc.end[k]; i = doc.behind(i)) {
+            for (int i = doc.firstIn(k); i < doc.end[k]; i = Math.max(i + 1, doc.end[i])) {
                 if (doc.kind[i] == ELEMENT && doc.nameOf[i] == name && isQuoted(doc, path, bracket, i)) {
                     return true;
                 }
@@ -1913,7 +1908,7 @@ public final class TreePress {
         }
 
         void compose(Doc doc, int newWidth, int newHeight) {
-            width = Math.max(1, newWidth);
+            width = newWidth;
             height = newHeight;
             openCount = 0;
             size = 0;
@@ -1993,10 +1988,11 @@ public final class TreePress {
             if (wordLength > width) {
                 finishLine();
             }
-            for (; wordLength > width; wordLength -= width) {
+            for (int turn = 0; turn < MOST_BYTES && wordLength > width; turn++) {
                 append(doc, width);
                 finishLine();
                 wordFrom += width;
+                wordLength -= width;
             }
             if (wordLength > 0) {
                 if (lineLength + 1 + wordLength > width) {
