@@ -34,6 +34,8 @@ public final class DoctypeTest {
         Desk.refused("<!DOCTYPE a []>", -1, 15);
         Desk.refused("<!DOCTYPE a []><!DOCTYPE a []><a/>", -1, 16);
         Desk.refused("<!DOCTYPE " + Desk.repeat("n", 21) + " []><a/>", -3, 10);
+        Desk.refused("<!DOCTYPE a <a/>", -1, 12);
+        Desk.refused("<!DOCTYPE<a/>", -1, 9);
         bad("x", -1, 0);
         bad("<!ENTITY", -1, 0);
         bad("<!ELEMEN a ANY>", -1, 0);
@@ -45,6 +47,12 @@ public final class DoctypeTest {
         good("<!ELEMENT a (#PCDATA)><!ELEMENT b ( #PCDATA )*>");
         good("<!ELEMENT a (#PCDATA|b)*><!ELEMENT b (#PCDATA\n|\tc | d )*>");
         bad("<!ELEMENTa ANY>", -1, 9);
+        bad("<!ELEMENT", -1, 9);
+        bad("<!ELEMENT a", -1, 11);
+        bad("<!ELEMENT a ", -1, 12);
+        bad("<!ELEMENT a >", -1, 12);
+        bad("<!ELEMENT a (#PCDATA>", -1, 20);
+        bad("<!ELEMENT a (#PCDATA|>", -1, 21);
         bad("<!ELEMENT 1 ANY>", -1, 10);
         bad("<!ELEMENT aANY>", -1, 14);
         bad("<!ELEMENT a>", -1, 11);
@@ -66,6 +74,8 @@ public final class DoctypeTest {
         good("<!ELEMENT a (b?,(c|d+)*,(e))+ >");
         good("<!ELEMENT a ((b))?>");
         bad("<!ELEMENT a ()>", -1, 13);
+        bad("<!ELEMENT a (>", -1, 13);
+        bad("<!ELEMENT a (b>", -1, 14);
         bad("<!ELEMENT a (b,)>", -1, 15);
         bad("<!ELEMENT a (b,c|d)>", -1, 16);
         bad("<!ELEMENT a (b|c,d)>", -1, 16);
@@ -83,7 +93,13 @@ public final class DoctypeTest {
         good("<!ATTLIST a><!ATTLIST a >");
         good("<!ATTLIST a x CDATA #REQUIRED y ID #IMPLIED\nz (1|-.|a_b) #IMPLIED>");
         bad("<!ATTLISTa x CDATA #IMPLIED>", -1, 9);
+        bad("<!ATTLIST>", -1, 9);
+        bad("<!ATTLIST >", -1, 10);
         bad("<!ATTLIST a x>", -1, 13);
+        bad("<!ATTLIST a x CDATA>", -1, 19);
+        bad("<!ATTLIST a x CDATA >", -1, 20);
+        bad("<!ATTLIST a x 'v'>", -1, 14);
+        bad("<!ATTLIST a x (b>", -1, 16);
         bad("<!ATTLIST a 1>", -1, 12);
         bad("<!ATTLIST a x CDAT #IMPLIED>", -1, 14);
         bad("<!ATTLIST a x IDREF #IMPLIED>", -1, 16);

@@ -34,6 +34,11 @@ public final class FindingTest {
         Desk.due("below 0", desk.press.finding(-1, 0), -9);
         desk.read("<b></c>");
         Desk.due("the DOCUMENT stays", desk.press.findings(), 3);
+        String ids = "<!DOCTYPE a [<!ELEMENT a ANY><!ATTLIST a i ID #IMPLIED>]><a i='x'><a i='y'/></a>";
+        for (int turn = 0; turn < 4; turn++) {
+            desk.read(ids);
+            Desk.due("an ID of the DOCUMENT before is none", desk.findings(), "");
+        }
         desk.read("<b/>");
         Desk.due("another DOCUMENT", desk.press.findings(), -1);
         Desk.due("another DOCUMENT", desk.press.finding(0, 0), -9);
@@ -58,6 +63,7 @@ public final class FindingTest {
         // Declarations are judged as they stand.
         judged("<!ATTLIST a x (p) 'q'><!ELEMENT a ANY><!ATTLIST a y (p) 'q'><!ELEMENT a (b|b)>", "<a/>",
                 "5:0 5:1 1:1 2:1");
+        judged("<!ELEMENT a (b|b)*><!ATTLIST a x (p) 'q'><!ELEMENT c (#PCDATA|b|b)*>", "<a/>", "2:0 5:0 3:1");
     }
 
     private static void determinism() {
@@ -99,7 +105,7 @@ public final class FindingTest {
             {"(b)", "<b/>"}, {"(b)", " <b/>\n"}, {"(b)", "<b/><!--c-->"}, {"(b?)", ""}, {"(b*)", "<b/><b/><b/>"},
             {"(b,c)", "<b/><c/>"}, {"(b|c)", "<c/>"}, {"(b|c)+", "<b/><c/><b/>"}, {"(b,(c|d)*,b)", "<b/><d/><c/><b/>"},
             {"((b,c)|(b,d))", "<b/><d/>"}, {"((b?,c?)+)", ""}, {"(b*,b)", "<b/><b/>"}, {"(b,c?,d)", "<b/><d/>"},
-            {"((b,c)+)", "<b/><c/><b/><c/>"}, {"(b)*", " "},
+            {"((b,c)+)", "<b/><c/><b/><c/>"}, {"(b)*", " "}, {"(b?|c)", ""}, {"(b|c*)", ""}, {"(b|c|d?)", "<c/>"},
         };
         for (String[] pair : fitting) {
             String found = pair[0].equals("((b,c)|(b,d))") || pair[0].equals("(b*,b)") ? "2:0" : "";
@@ -108,13 +114,16 @@ public final class FindingTest {
         String[][] others = {
             {"(b)", ""}, {"(b)", "<b/><b/>"}, {"(b)", "x<b/>"}, {"(b)", "&#32;<b/>"}, {"(b)", "<c/>"}, {"(b+)", ""},
             {"(b,c)", "<b/>"}, {"(b,c)", "<c/><b/>"}, {"(b|c)", "<b/><c/>"}, {"((b,c)+)", "<b/><c/><b/>"},
-            {"(b?,c)", "<b/>"}, {"(b,(c|d)?)", "<b/><c/><d/>"}, {"(b)*", "<!--c-->x"},
+            {"(b?,c)", "<b/>"}, {"(b,(c|d)?)", "<b/><c/><d/>"}, {"(b)*", "<!--c-->x"}, {"(b|c)", ""},
+            {"(b?,c)", ""}, {"(b,c?)", ""},
         };
         for (String[] pair : others) {
             judged("<!ELEMENT a " + pair[0] + ">" + rest, "<a>" + pair[1] + "</a>", "8:1");
         }
         // What lies deeper does not matter.
         judged("<!ELEMENT a (b)><!ELEMENT b ANY>", "<a><b>x<b/></b></a>", "");
+        // And neither does what stands behind.
+        judged("<!ELEMENT a ANY><!ELEMENT b (c)><!ELEMENT c EMPTY>", "<a><b><c/></b><c/>x</a>", "");
     }
 
     private static void attributes() {
@@ -128,6 +137,7 @@ public final class FindingTest {
         judged(all, "<a i='" + Desk.repeat("n", 21) + "'/>", "10:2");
         judged(all, "<a i=''/>", "10:2");
         judged(all, "<a i='x'><b j='x' r='' s=''/><a i='y'/><a i='x'/></a>", "11:5 11:12");
+        judged(all, "<a f='v' i='v'><b r='w' s='z' j='w'/></a>", "");
         judged(all, "<a><b/></a>", "12:3 12:3");
         judged(all, "<a><b s='' z='' r=''/></a>", "9:5");
         judged(all, "<a><b z='' s=''/></a>", "9:4 12:3");

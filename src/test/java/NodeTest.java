@@ -9,6 +9,7 @@ public final class NodeTest {
         names(desk);
         strings(desk);
         edges(desk);
+        manyNames();
         Desk.end();
     }
 
@@ -48,6 +49,23 @@ public final class NodeTest {
             "f", "f", "f"};
         for (int k = 0; k < due.length; k++) {
             Desk.due("STRING of " + k, desk.string(k), due[k]);
+        }
+    }
+
+    /** NAMES that are alike, or of one length, stay apart. */
+    private static void manyNames() {
+        StringBuilder text = new StringBuilder("<a>");
+        for (int i = 0; i < 400; i++) {
+            text.append("<n").append(i).append("/>");
+        }
+        String whole = text.append("</a>").toString();
+        Desk desk = Desk.taken(whole, 402);
+        for (int i = 0; i < 400; i += 19) {
+            Desk.due("NAME of " + (i + 2), desk.name(i + 2), "n" + i);
+        }
+        desk = Desk.taken(whole, 402);
+        for (int i = 0; i < 400; i += 7) {
+            Desk.due("the NODE of the NAME", desk.path(1, "n" + i), "" + (i + 2));
         }
     }
 

@@ -18,6 +18,10 @@ public final class ReadTest {
         Desk.due("fed", desk.feed("<a/>"), 4);
         Desk.due("n above THE TAPE", desk.press.read(21), 0);
         Desk.due("nothing happened", desk.press.count(5), 20);
+        Desk.due("no byte of them", desk.press.read(0), -1);
+        Desk.due("place", desk.press.place(), 0);
+        Desk.due("THE TAPE is empty", desk.press.count(5), 0);
+        desk.feed("<a/>");
         Desk.due("the first bytes alone", desk.press.read(4), 2);
         Desk.due("THE TAPE is empty", desk.press.count(5), 0);
         Desk.due("ILL", desk.read("<b>"), -1);
@@ -57,6 +61,8 @@ public final class ReadTest {
         Desk.refused("<a><!--\u0001", -1, 7);
         Desk.refused("<a><!-x--></a>", -1, 4);
         Desk.refused("<!-- -", -1, 6);
+        Desk.refused("<!-- --<a/>", -1, 7);
+        Desk.refused("<!--~\u007f--><a/>", -1, 5);
     }
 
     private static void tags() {
@@ -86,6 +92,7 @@ public final class ReadTest {
         Desk.due("named REFS", desk.string(2), "<>&\"'\"");
         Desk.due("numbered REFS and S in a VALUE", desk.string(3), "'AB\t   ");
         Desk.due("a TEXT keeps its S", desk.string(4), "\n]]><\t");
+        Desk.due("the last CHAR", Desk.taken("<a>~&#126;</a>", 3).string(2), "~~");
         Desk.refused("<a>b&</a>", -1, 4);
         Desk.refused("<a>&lt</a>", -1, 3);
         Desk.refused("<a>&LT;</a>", -1, 3);

@@ -69,6 +69,7 @@ public final class SelectTest {
         Desk.due("//*", desk.path(0, "//*"), "1 3 5 7 10 12 16 18 19");
         Desk.due("//.", desk.path(0, "//."), "0 1 3 5 7 10 12 16 18 19");
         Desk.due(".//p", desk.path(12, ".//p"), "16 19");
+        Desk.due(".//* goes no further", desk.path(3, ".//*"), "5 7 10");
         Desk.due(".//. of an attribute", desk.path(13, ".//."), "13");
         Desk.due("each once", desk.path(0, "//p/.."), "3 12 18");
         Desk.due("each once", desk.path(0, "//..//p"), "5 7 16 19");
@@ -103,7 +104,14 @@ public final class SelectTest {
         Desk.due("of no NAME", desk.path(0, "//p[nothing]"), "");
         Desk.due("the other quote", desk.path(0, "//p[.=\"'\"]"), "");
         Desk.due("a blank", desk.path(0, "//text()[.=' ']"), "15");
+        Desk.due("several places", manyPlaces(), "12 11 13 2");
         Desk.due("no REFS", desk.path(0, "//text()[.='&#32;']"), "");
+    }
+
+    private static String manyPlaces() {
+        Desk desk = Desk.taken("<a>" + Desk.repeat("<b/>", 12) + "</a>", 14);
+        return desk.path(1, "b[11]") + " " + desk.path(1, "b[0010]") + " " + desk.path(1, "b[12]") + " "
+                + desk.path(1, "*[1][last()]") + desk.path(1, "b[13]");
     }
 
     private static void ill() {

@@ -68,12 +68,27 @@ public final class SetTest {
         isSet("<a>x abcd</a>", 3, 5, "0.0 x|0.1 abc|0.2 d|");
         isSet("<a>x abcdef y</a>", 3, 5, "0.0 x|0.1 abc|0.2 def|0.3 y|");
         isSet("<a>x abc y</a>", 3, 5, "0.0 x|0.1 abc|0.2 y|");
+        full();
         Desk desk = Desk.taken("<a>ab<b>cd</b>ef <c>g</c></a>", 8);
         desk.press.set(3, 9);
         Desk.due("lines", desk.lines(), "0.0 abc|0.1 def|0.2 g|");
         Desk.due("the TEXT of the first byte", desk.press.line(0, 3), 2);
         Desk.due("the TEXT of a piece", desk.press.line(1, 3), 4);
         Desk.due("the TEXT of the last line", desk.press.line(2, 3), 7);
+    }
+
+    /** As many bytes as a DOCUMENT may have. */
+    private static void full() {
+        Desk desk = Desk.taken("<a>" + Desk.repeat("x", 2000) + "</a>", 3);
+        Desk.due("the most lines", desk.press.set(1, 50), 2000);
+        Desk.due("the last one", desk.press.at(1999, 0), 'x');
+        Desk.due("its page", desk.press.line(1999, 0), 39);
+        Desk.due("wide lines", desk.press.set(60, 50), 34);
+        Desk.due("the last one", desk.press.line(33, 1), 20);
+        desk.read("<a>" + Desk.repeat(" x", 1000) + "</a>");
+        Desk.due("the most WORDS", desk.press.set(60, 50), 34);
+        Desk.due("the last one", desk.press.line(33, 1), 19);
+        Desk.due("the most WORDS, each alone", desk.press.set(2, 50), 1000);
     }
 
     private static void blocks() {
@@ -102,6 +117,7 @@ public final class SetTest {
         isSet("<a>1 2<A keep='2'>3 4</A>5</a>", 1, 3, "0.0 1|0.1 2|0.2 3|1.0 4|1.1 5|");
         isSet("<a>1 2<A keep='11'>3 4</A></a>", 1, 3, "0.0 1|0.1 2|0.2 3|1.0 4|");
         isSet("<a>1 2<A Keep='1' kee='1'>3 4</A></a>", 1, 3, "0.0 1|0.1 2|0.2 3|1.0 4|");
+        isSet("<a>1 2<A kxep='1' kexp='1' keex='1' xeep='1'>3 4</A></a>", 1, 3, "0.0 1|0.1 2|0.2 3|1.0 4|");
         isSet("<a>1 2 <b keep='1'>3 4</b></a>", 1, 3, "0.0 1|0.1 2|0.2 3|1.0 4|");
         isSet("<a>1<A keep='1'>2 3</A>4</a>", 1, 3, "0.0 1|0.1 2|0.2 3|1.0 4|");
         // As many lines as the height are kept together, one more are not.

@@ -10,9 +10,9 @@ public final class WildCallsTest {
 
     public static void main(String[] args) {
         Random random = new Random(7);
-        for (int run = 0; run < 300; run++) {
+        for (int run = 0; run < 600; run++) {
             Desk desk = new Desk();
-            for (int turn = 0; turn < 12; turn++) {
+            for (int turn = 0; turn < 5; turn++) {
                 desk.read(random.nextBoolean() ? wildText(random) : likelyText(random));
                 wildCalls(desk, random);
                 desk.select(Math.max(0, random.nextInt(3)), wildText(random));
