@@ -159,7 +159,7 @@ public final class DoctypeTest {
     private static void defaults() {
         String head = "<!DOCTYPE a [<!ATTLIST a x CDATA '" + Desk.repeat("v", 1000) + "' y CDATA #FIXED ''>]>";
         Desk desk = Desk.taken(head + "<a><a/><a y=''/></a>", 10);
-        Desk.due("STRING by default", desk.press.node(2, 3), 1000);
+        Desk.due("STRING by default", desk.node(2, 3), 1000);
         Desk.due("those that stand come first", desk.name(8), "y");
         String six = "<a b='' c='' d='' e='' f='' g=''";
         Desk.taken(head + six + "/>", 10);

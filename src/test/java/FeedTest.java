@@ -8,7 +8,7 @@ public final class FeedTest {
 
     /** The highest byte of a number comes first, and the numbers in their order. */
     private static void order() {
-        TreePress press = new TreePress();
+        Desk press = new Desk();
         Desk.due("feed", press.feed(0x3c613e42, 0x43444546, 0x4748494a, 0x4b4c4d4e, 0x4f3c2f61), 20);
         Desk.due("feed again", press.feed(0x3e202020, 0x20202020, 0x20202020, 0x20202020, 0x20202020), 40);
         Desk.due("read", press.read(21), 3);
@@ -16,14 +16,14 @@ public final class FeedTest {
         for (int i = 0; i < 14; i++) {
             Desk.due("byte " + i, press.string(2, i), 'B' + i);
         }
-        TreePress other = new TreePress();
+        Desk other = new Desk();
         other.feed(-1, -1, -1, -1, -1);
         Desk.due("bytes that are no CHARS", other.read(20), -1);
         Desk.due("place of the first one", other.place(), 0);
     }
 
     private static void room() {
-        TreePress press = new TreePress();
+        Desk press = new Desk();
         for (int i = 1; i <= 300; i++) {
             Desk.due("feed " + i, press.feed(0x20202020, 0x20202020, 0x20202020, 0x20202020, 0x20202020), 20 * i);
         }

@@ -16,32 +16,32 @@ public final class FindingTest {
         Desk desk = new Desk();
         String text = "<!DOCTYPE a [" + declarations + "]>" + element;
         if (desk.read(text) < 0) {
-            Desk.due("read of " + text, desk.press.place(), -1);
+            Desk.due("read of " + text, desk.place(), -1);
         }
-        Desk.due("findings of " + text, desk.findings(), due);
+        Desk.due("findings of " + text, desk.allFindings(), due);
     }
 
     private static void calls() {
         Desk desk = Desk.taken("<a/>", 2);
-        Desk.due("without a DOCTYPE", desk.press.findings(), -1);
-        Desk.due("no FINDING", desk.press.finding(0, 0), -9);
+        Desk.due("without a DOCTYPE", desk.findings(), -1);
+        Desk.due("no FINDING", desk.finding(0, 0), -9);
         desk.read("<!DOCTYPE a []><b x=''/>");
-        Desk.due("with a DOCTYPE", desk.press.findings(), 3);
-        Desk.due("all", desk.findings(), "6:1 7:1 9:2");
-        Desk.due("another what", desk.press.finding(0, 2), -9);
-        Desk.due("another what", desk.press.finding(0, -1), -9);
-        Desk.due("one too many", desk.press.finding(3, 0), -9);
-        Desk.due("below 0", desk.press.finding(-1, 0), -9);
+        Desk.due("with a DOCTYPE", desk.findings(), 3);
+        Desk.due("all", desk.allFindings(), "6:1 7:1 9:2");
+        Desk.due("another what", desk.finding(0, 2), -9);
+        Desk.due("another what", desk.finding(0, -1), -9);
+        Desk.due("one too many", desk.finding(3, 0), -9);
+        Desk.due("below 0", desk.finding(-1, 0), -9);
         desk.read("<b></c>");
-        Desk.due("the DOCUMENT stays", desk.press.findings(), 3);
+        Desk.due("the DOCUMENT stays", desk.findings(), 3);
         String ids = "<!DOCTYPE a [<!ELEMENT a ANY><!ATTLIST a i ID #IMPLIED>]><a i='x'><a i='y'/></a>";
         for (int turn = 0; turn < 4; turn++) {
             desk.read(ids);
-            Desk.due("an ID of the DOCUMENT before is none", desk.findings(), "");
+            Desk.due("an ID of the DOCUMENT before is none", desk.allFindings(), "");
         }
         desk.read("<b/>");
-        Desk.due("another DOCUMENT", desk.press.findings(), -1);
-        Desk.due("another DOCUMENT", desk.press.finding(0, 0), -9);
+        Desk.due("another DOCUMENT", desk.findings(), -1);
+        Desk.due("another DOCUMENT", desk.finding(0, 0), -9);
     }
 
     private static void declarations() {

@@ -1,7 +1,7 @@
 /** Promise 1: a new object has no DOCUMENT, and every call on it says so. */
 public final class NewObjectTest {
     public static void main(String[] args) {
-        TreePress press = new TreePress();
+        Desk press = new Desk();
         Desk.due("place", press.place(), -1);
         Desk.due("node", press.node(0, 0), -9);
         Desk.due("name", press.name(0, 0), -1);

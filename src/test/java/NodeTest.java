@@ -32,7 +32,7 @@ public final class NodeTest {
         };
         for (int k = 0; k < due.length; k++) {
             for (int what = 0; what < 7; what++) {
-                Desk.due("node(" + k + ", " + what + ")", desk.press.node(k, what), due[k][what]);
+                Desk.due("node(" + k + ", " + what + ")", desk.node(k, what), due[k][what]);
             }
         }
     }
@@ -72,17 +72,17 @@ public final class NodeTest {
     private static void edges(Desk desk) {
         int[] wild = {-1, 14, 600, Integer.MAX_VALUE, Integer.MIN_VALUE};
         for (int k : wild) {
-            Desk.due("node " + k, desk.press.node(k, 0), -9);
-            Desk.due("name " + k, desk.press.name(k, 0), -1);
-            Desk.due("string " + k, desk.press.string(k, 0), -1);
-            Desk.due("name byte " + k, desk.press.name(1, k), -1);
-            Desk.due("string byte " + k, desk.press.string(2, k), -1);
+            Desk.due("node " + k, desk.node(k, 0), -9);
+            Desk.due("name " + k, desk.name(k, 0), -1);
+            Desk.due("string " + k, desk.string(k, 0), -1);
+            Desk.due("name byte " + k, desk.name(1, k), -1);
+            Desk.due("string byte " + k, desk.string(2, k), -1);
         }
-        Desk.due("what 7", desk.press.node(0, 7), -9);
-        Desk.due("what -1", desk.press.node(0, -1), -9);
-        Desk.due("last byte of a NAME", desk.press.name(1, 2), 'c');
-        Desk.due("behind a NAME", desk.press.name(1, 3), -1);
-        Desk.due("last byte of a STRING", desk.press.string(0, 12), 'f');
-        Desk.due("behind a STRING", desk.press.string(0, 13), -1);
+        Desk.due("what 7", desk.node(0, 7), -9);
+        Desk.due("what -1", desk.node(0, -1), -9);
+        Desk.due("last byte of a NAME", desk.name(1, 2), 'c');
+        Desk.due("behind a NAME", desk.name(1, 3), -1);
+        Desk.due("last byte of a STRING", desk.string(0, 12), 'f');
+        Desk.due("behind a STRING", desk.string(0, 13), -1);
     }
 }

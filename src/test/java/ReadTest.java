@@ -13,17 +13,17 @@ public final class ReadTest {
 
     private static void calls() {
         Desk desk = new Desk();
-        Desk.due("n below 0", desk.press.read(-1), 0);
-        Desk.due("n above THE TAPE", desk.press.read(1), 0);
+        Desk.due("n below 0", desk.read(-1), 0);
+        Desk.due("n above THE TAPE", desk.read(1), 0);
         Desk.due("fed", desk.feed("<a/>"), 4);
-        Desk.due("n above THE TAPE", desk.press.read(21), 0);
-        Desk.due("nothing happened", desk.press.count(5), 20);
-        Desk.due("no byte of them", desk.press.read(0), -1);
-        Desk.due("place", desk.press.place(), 0);
-        Desk.due("THE TAPE is empty", desk.press.count(5), 0);
+        Desk.due("n above THE TAPE", desk.read(21), 0);
+        Desk.due("nothing happened", desk.count(5), 20);
+        Desk.due("no byte of them", desk.read(0), -1);
+        Desk.due("place", desk.place(), 0);
+        Desk.due("THE TAPE is empty", desk.count(5), 0);
         desk.feed("<a/>");
-        Desk.due("the first bytes alone", desk.press.read(4), 2);
-        Desk.due("THE TAPE is empty", desk.press.count(5), 0);
+        Desk.due("the first bytes alone", desk.read(4), 2);
+        Desk.due("THE TAPE is empty", desk.count(5), 0);
         Desk.due("ILL", desk.read("<b>"), -1);
         Desk.due("the DOCUMENT stays", desk.name(1), "a");
         Desk.due("ILL by NAMES", desk.read("<b></c>"), -2);

@@ -18,33 +18,33 @@ public final class SelectTest {
     private static void calls() {
         Desk desk = new Desk();
         desk.feed("doc");
-        Desk.due("without a DOCUMENT", desk.press.select(0, 3), -9);
-        Desk.due("nothing happened", desk.press.count(5), 20);
+        Desk.due("without a DOCUMENT", desk.select(0, 3), -9);
+        Desk.due("nothing happened", desk.count(5), 20);
         desk = Desk.taken(TEXT, 21);
         desk.feed("//p");
-        Desk.due("no such NODE", desk.press.select(21, 3), -9);
-        Desk.due("no such NODE", desk.press.select(-1, 3), -9);
-        Desk.due("n below 0", desk.press.select(0, -1), -9);
-        Desk.due("n above THE TAPE", desk.press.select(0, 21), -9);
-        Desk.due("nothing happened", desk.press.count(5), 20);
-        Desk.due("the first bytes alone", desk.press.select(0, 3), 4);
-        Desk.due("THE TAPE is empty", desk.press.count(5), 0);
-        Desk.due("told 0", desk.press.told(0), 5);
-        Desk.due("told 3", desk.press.told(3), 19);
-        Desk.due("told 4", desk.press.told(4), -1);
-        Desk.due("told -1", desk.press.told(-1), -1);
+        Desk.due("no such NODE", desk.select(21, 3), -9);
+        Desk.due("no such NODE", desk.select(-1, 3), -9);
+        Desk.due("n below 0", desk.select(0, -1), -9);
+        Desk.due("n above THE TAPE", desk.select(0, 21), -9);
+        Desk.due("nothing happened", desk.count(5), 20);
+        Desk.due("the first bytes alone", desk.select(0, 3), 4);
+        Desk.due("THE TAPE is empty", desk.count(5), 0);
+        Desk.due("told 0", desk.told(0), 5);
+        Desk.due("told 3", desk.told(3), 19);
+        Desk.due("told 4", desk.told(4), -1);
+        Desk.due("told -1", desk.told(-1), -1);
         Desk.due("an ILL one", desk.select(0, "//p["), -1);
-        Desk.due("THE TAPE is empty", desk.press.count(5), 0);
-        Desk.due("what the one before told stays", desk.press.told(3), 19);
+        Desk.due("THE TAPE is empty", desk.count(5), 0);
+        Desk.due("what the one before told stays", desk.told(3), 19);
         Desk.due("a BOUND", desk.select(0, Desk.repeat("./", 12) + "."), -3);
-        Desk.due("what the one before told stays", desk.press.told(3), 19);
+        Desk.due("what the one before told stays", desk.told(3), 19);
         Desk.due("one that tells nothing", desk.select(0, "p"), 0);
-        Desk.due("nothing is told", desk.press.told(0), -1);
+        Desk.due("nothing is told", desk.told(0), -1);
         desk.select(0, "//p");
         desk.read("<a></b>");
-        Desk.due("a text that is refused", desk.press.told(0), 5);
+        Desk.due("a text that is refused", desk.told(0), 5);
         desk.read("<a/>");
-        Desk.due("a new DOCUMENT", desk.press.told(0), -1);
+        Desk.due("a new DOCUMENT", desk.told(0), -1);
     }
 
     private static void steps() {

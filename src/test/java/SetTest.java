@@ -12,47 +12,47 @@ public final class SetTest {
     private static void isSet(String text, int width, int height, String due) {
         Desk desk = new Desk();
         if (desk.read(text) < 0) {
-            Desk.due("read of " + text, desk.press.place(), -1);
+            Desk.due("read of " + text, desk.place(), -1);
         }
-        int lines = desk.press.set(width, height);
+        int lines = desk.set(width, height);
         Desk.due("lines of " + text, desk.lines(), due);
         Desk.due("how many lines of " + text, lines, due.length() - due.replace("|", "").length());
     }
 
     private static void calls() {
         Desk desk = new Desk();
-        Desk.due("without a DOCUMENT", desk.press.set(10, 10), -9);
+        Desk.due("without a DOCUMENT", desk.set(10, 10), -9);
         desk.read("<a>one two<b>three</b></a>");
         int[][] wrong = {{0, 1}, {61, 1}, {1, 0}, {1, 51}, {-1, 1}, {1, Integer.MIN_VALUE}, {Integer.MAX_VALUE, 1}};
         for (int[] pair : wrong) {
-            Desk.due("set(" + pair[0] + ", " + pair[1] + ")", desk.press.set(pair[0], pair[1]), -9);
+            Desk.due("set(" + pair[0] + ", " + pair[1] + ")", desk.set(pair[0], pair[1]), -9);
         }
-        Desk.due("nothing is SET", desk.press.line(0, 0), -9);
-        Desk.due("nothing is SET", desk.press.at(0, 0), -1);
-        Desk.due("the widest and highest", desk.press.set(60, 50), 1);
-        Desk.due("the smallest", desk.press.set(1, 1), 11);
-        Desk.due("set", desk.press.set(8, 1), 2);
-        Desk.due("a wrong one leaves it", desk.press.set(0, 1), -9);
+        Desk.due("nothing is SET", desk.line(0, 0), -9);
+        Desk.due("nothing is SET", desk.at(0, 0), -1);
+        Desk.due("the widest and highest", desk.set(60, 50), 1);
+        Desk.due("the smallest", desk.set(1, 1), 11);
+        Desk.due("set", desk.set(8, 1), 2);
+        Desk.due("a wrong one leaves it", desk.set(0, 1), -9);
         int[][] due = {{0, 3, 0, 2}, {1, 8, 0, 2}};
         for (int i = 0; i < due.length; i++) {
             for (int what = 0; what < 4; what++) {
-                Desk.due("line(" + i + ", " + what + ")", desk.press.line(i, what), due[i][what]);
+                Desk.due("line(" + i + ", " + what + ")", desk.line(i, what), due[i][what]);
             }
         }
-        Desk.due("another what", desk.press.line(0, 4), -9);
-        Desk.due("another what", desk.press.line(0, -1), -9);
-        Desk.due("no such line", desk.press.line(2, 0), -9);
-        Desk.due("no such line", desk.press.line(-1, 0), -9);
-        Desk.due("byte", desk.press.at(1, 7), 'e');
-        Desk.due("behind the line", desk.press.at(1, 8), -1);
-        Desk.due("ahead of the line", desk.press.at(1, -1), -1);
-        Desk.due("no such line", desk.press.at(2, 0), -1);
-        Desk.due("no such line", desk.press.at(-1, 0), -1);
+        Desk.due("another what", desk.line(0, 4), -9);
+        Desk.due("another what", desk.line(0, -1), -9);
+        Desk.due("no such line", desk.line(2, 0), -9);
+        Desk.due("no such line", desk.line(-1, 0), -9);
+        Desk.due("byte", desk.at(1, 7), 'e');
+        Desk.due("behind the line", desk.at(1, 8), -1);
+        Desk.due("ahead of the line", desk.at(1, -1), -1);
+        Desk.due("no such line", desk.at(2, 0), -1);
+        Desk.due("no such line", desk.at(-1, 0), -1);
         desk.read("<a></b>");
-        Desk.due("a text that is refused leaves it", desk.press.line(1, 1), 8);
+        Desk.due("a text that is refused leaves it", desk.line(1, 1), 8);
         desk.read("<a>x</a>");
-        Desk.due("a new DOCUMENT", desk.press.line(0, 0), -9);
-        Desk.due("a new DOCUMENT", desk.press.at(0, 0), -1);
+        Desk.due("a new DOCUMENT", desk.line(0, 0), -9);
+        Desk.due("a new DOCUMENT", desk.at(0, 0), -1);
     }
 
     private static void words() {
@@ -70,25 +70,25 @@ public final class SetTest {
         isSet("<a>x abc y</a>", 3, 5, "0.0 x|0.1 abc|0.2 y|");
         full();
         Desk desk = Desk.taken("<a>ab<b>cd</b>ef <c>g</c></a>", 8);
-        desk.press.set(3, 9);
+        desk.set(3, 9);
         Desk.due("lines", desk.lines(), "0.0 abc|0.1 def|0.2 g|");
-        Desk.due("the TEXT of the first byte", desk.press.line(0, 3), 2);
-        Desk.due("the TEXT of a piece", desk.press.line(1, 3), 4);
-        Desk.due("the TEXT of the last line", desk.press.line(2, 3), 7);
+        Desk.due("the TEXT of the first byte", desk.line(0, 3), 2);
+        Desk.due("the TEXT of a piece", desk.line(1, 3), 4);
+        Desk.due("the TEXT of the last line", desk.line(2, 3), 7);
     }
 
     /** As many bytes as a DOCUMENT may have. */
     private static void full() {
         Desk desk = Desk.taken("<a>" + Desk.repeat("x", 2000) + "</a>", 3);
-        Desk.due("the most lines", desk.press.set(1, 50), 2000);
-        Desk.due("the last one", desk.press.at(1999, 0), 'x');
-        Desk.due("its page", desk.press.line(1999, 0), 39);
-        Desk.due("wide lines", desk.press.set(60, 50), 34);
-        Desk.due("the last one", desk.press.line(33, 1), 20);
+        Desk.due("the most lines", desk.set(1, 50), 2000);
+        Desk.due("the last one", desk.at(1999, 0), 'x');
+        Desk.due("its page", desk.line(1999, 0), 39);
+        Desk.due("wide lines", desk.set(60, 50), 34);
+        Desk.due("the last one", desk.line(33, 1), 20);
         desk.read("<a>" + Desk.repeat(" x", 1000) + "</a>");
-        Desk.due("the most WORDS", desk.press.set(60, 50), 34);
-        Desk.due("the last one", desk.press.line(33, 1), 19);
-        Desk.due("the most WORDS, each alone", desk.press.set(2, 50), 1000);
+        Desk.due("the most WORDS", desk.set(60, 50), 34);
+        Desk.due("the last one", desk.line(33, 1), 19);
+        Desk.due("the most WORDS, each alone", desk.set(2, 50), 1000);
     }
 
     private static void blocks() {
@@ -103,12 +103,12 @@ public final class SetTest {
     private static void pages() {
         isSet("<a>1 2 3 4 5</a>", 1, 2, "0.0 1|0.1 2|1.0 3|1.1 4|2.0 5|");
         Desk desk = Desk.taken("<a>1 2 3 4 5</a>", 3);
-        desk.press.set(1, 2);
-        Desk.due("pages", desk.press.count(4), 3);
-        desk.press.set(1, 5);
-        Desk.due("one page", desk.press.count(4), 1);
-        desk.press.set(1, 1);
-        Desk.due("a page a line", desk.press.count(4), 5);
+        desk.set(1, 2);
+        Desk.due("pages", desk.count(4), 3);
+        desk.set(1, 5);
+        Desk.due("one page", desk.count(4), 1);
+        desk.set(1, 1);
+        Desk.due("a page a line", desk.count(4), 5);
     }
 
     private static void keeping() {

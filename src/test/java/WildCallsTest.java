@@ -10,9 +10,9 @@ public final class WildCallsTest {
 
     public static void main(String[] args) {
         Random random = new Random(7);
-        for (int run = 0; run < 600; run++) {
+        for (int run = 0; run < 1000; run++) {
             Desk desk = new Desk();
-            for (int turn = 0; turn < 5; turn++) {
+            for (int turn = 0; turn < 3; turn++) {
                 desk.read(random.nextBoolean() ? wildText(random) : likelyText(random));
                 wildCalls(desk, random);
                 desk.select(Math.max(0, random.nextInt(3)), wildText(random));
@@ -35,7 +35,7 @@ public final class WildCallsTest {
     private static String likelyText(Random random) {
         String[] names = {"a", "A", "b"};
         StringBuilder text = new StringBuilder("<!DOCTYPE a [<!ELEMENT a (a|A|b)*><!ATTLIST A keep CDATA '1'>]><a>");
-        int size = random.nextInt(40);
+        int size = random.nextInt(12);
         for (int i = 0; i < size; i++) {
             String name = names[random.nextInt(3)];
             text.append('<').append(name).append('>').append(PARTS[10 + random.nextInt(4)]).append(" x</")
@@ -47,31 +47,29 @@ public final class WildCallsTest {
     private static void wildCalls(Desk desk, Random random) {
         int i = EDGES[random.nextInt(EDGES.length)];
         int k = EDGES[random.nextInt(EDGES.length)];
-        TreePress press = desk.press;
-        press.node(i, k);
-        press.name(i, k);
-        press.string(i, k);
-        press.finding(i, k);
-        press.told(i);
-        press.set(i, k);
-        press.line(i, k);
-        press.at(i, k);
-        press.count(i);
-        press.read(i);
-        press.select(i, k);
+        desk.node(i, k);
+        desk.name(i, k);
+        desk.string(i, k);
+        desk.finding(i, k);
+        desk.told(i);
+        desk.set(i, k);
+        desk.line(i, k);
+        desk.at(i, k);
+        desk.count(i);
+        desk.read(i);
+        desk.select(i, k);
     }
 
     private static void hangsTogether(Desk desk) {
-        TreePress press = desk.press;
-        int nodes = press.count(0);
+        int nodes = desk.count(0);
         int within = 0;
         for (int k = 0; k < nodes; k++) {
-            within += press.node(k, 4) + press.node(k, 5);
-            Desk.due("a NODE lies in an earlier one", press.node(k, 1) < k ? 1 : 0, 1);
-            Desk.due("a STRING's end", press.string(k, press.node(k, 3)), -1);
+            within += desk.node(k, 4) + desk.node(k, 5);
+            Desk.due("a NODE lies in an earlier one", desk.node(k, 1) < k ? 1 : 0, 1);
+            Desk.due("a STRING's end", desk.string(k, desk.node(k, 3)), -1);
         }
         Desk.due("all but the ROOT lie in a NODE", within, Math.max(0, nodes - 1));
-        Desk.due("lines", press.line(press.count(3), 0), -9);
-        Desk.due("findings", press.finding(Math.max(0, press.findings()), 0), -9);
+        Desk.due("lines", desk.line(desk.count(3), 0), -9);
+        Desk.due("findings", desk.finding(Math.max(0, desk.findings()), 0), -9);
     }
 }
