@@ -19,6 +19,9 @@ public final class BoundEdgesTest {
         bytesByDefault();
         orderOfChecks();
         readingGoesOn();
+        asManyNames();
+        asManyRules();
+        asManyTokens();
         Desk.end();
     }
 
@@ -129,6 +132,9 @@ public final class BoundEdgesTest {
         String nine = "<!DOCTYPE a [<!ATTLIST a " + Desk.numbered("d% CDATA 'v'", " ", 9) + ">]>";
         Desk.bound(nine + "<a^/>");
         Desk.taken(nine + "<b/>", 2);
+        // The 10th RULE brings its attribute like the first.
+        String last = "<!DOCTYPE a [<!ATTLIST a " + Desk.numbered("d% CDATA #IMPLIED", " ", 9) + " x CDATA 'v'>]>";
+        Desk.due("of the 10th RULE", Desk.taken(last + "<a/>", 3).string(2), "v");
         String implied = "<!DOCTYPE a [<!ATTLIST a " + Desk.numbered("d% CDATA #IMPLIED", " ", 10) + ">]>";
         Desk.taken(implied + "<a/>", 2);
     }
@@ -277,5 +283,73 @@ public final class BoundEdgesTest {
         Desk.bound("<^x" + LONGEST + "><a></b>");
         Desk.illByNames("<a></^b><x" + LONGEST + ">&");
         Desk.bound(Desk.repeat("<a>", 30) + "<^a x='' x=''>&");
+    }
+
+    private static String letter(int i) {
+        String letters = "ABCDEFGHIJKLMNOPQRSTUVWXYZabcdefghijklmnopqrstuvwxyz_";
+        return letters.substring(i, i + 1);
+    }
+
+    /** No number is told for NAMES in all: as many as THE TAPE can hold are kept apart. */
+    private static void asManyNames() {
+        StringBuilder text = new StringBuilder("<!DOCTYPE a [");
+        for (int spec = 0; spec < 30; spec++) {
+            text.append("<!ELEMENT ").append(letter(spec)).append(" (");
+            for (int i = 0; i < 40; i++) {
+                text.append(i == 0 ? "" : "|").append(letter(i)).append(letter(spec));
+            }
+            text.append(")>");
+        }
+        text.append("]><a>");
+        for (int i = 0; i < 300; i++) {
+            text.append('<').append(letter(40 + i % 13)).append(letter(i / 13)).append("/>");
+        }
+        text.append("</a>");
+        Desk desk = Desk.taken(text.toString(), 302);
+        // Neither 1 nor 2: all NAMES are different. Of the ELEMENTS a alone is declared.
+        Desk.due("how many FINDINGS", desk.findings(), 301);
+        Desk.due("the first", desk.finding(0, 0), 8);
+        Desk.due("the last", desk.finding(300, 1), 301);
+        for (int i = 0; i < 300; i += 23) {
+            Desk.due("NAME of " + (i + 2), desk.name(i + 2), letter(40 + i % 13) + letter(i / 13));
+        }
+        Desk.due("the last NAME", desk.path(1, letter(40 + 299 % 13) + letter(299 / 13)), "301");
+        Desk.due("a NAME of a SPEC alone", desk.path(1, "AA"), "");
+    }
+
+    /** Nor for RULES in all. */
+    private static void asManyRules() {
+        StringBuilder text = new StringBuilder("<!DOCTYPE a [");
+        for (int list = 0; list < 61; list++) {
+            text.append("<!ATTLIST ").append(list < 52 ? letter(list) : "a" + letter(list - 52));
+            for (int i = 0; i < 10; i++) {
+                text.append(' ').append(letter(i)).append(" ID ''");
+            }
+            text.append('>');
+        }
+        Desk desk = Desk.taken(text + "<!ATTLIST _ A CDATA 'v' B (w) 'x'>]><_/>", 4);
+        Desk.due("RULES", desk.count(2), 612);
+        Desk.due("how many FINDINGS", desk.findings(), 2 * 610 + 3);
+        Desk.due("of the last RULE", desk.finding(1220, 0), 5);
+        Desk.due("its number", desk.finding(1220, 1), 611);
+        Desk.due("what comes by the last one", desk.string(3), "x");
+    }
+
+    /** Nor for TOKENS in all. */
+    private static void asManyTokens() {
+        StringBuilder text = new StringBuilder("<!DOCTYPE a [");
+        for (int list = 0; list < 22; list++) {
+            text.append("<!ATTLIST ").append(letter(list));
+            for (int i = 0; i < 10; i++) {
+                text.append(' ').append(letter(i)).append(" (1|2|3|4|5|6|7|8) '").append(i < 9 ? 8 : 9).append('\'');
+            }
+            text.append('>');
+        }
+        Desk desk = Desk.taken(text + "]><a/>", 2);
+        Desk.due("RULES", desk.count(2), 220);
+        Desk.due("how many FINDINGS", desk.findings(), 23);
+        for (int i = 0; i < 22; i++) {
+            Desk.due("FINDING", desk.finding(i, 1), 10 * i + 9);
+        }
     }
 }

@@ -192,6 +192,9 @@ public final class FormEdgesTest {
         illSpec("(b,(c|d^,e))");
         spec("(b|(c,d,(e|f))|(g,h))");
         spec("((b,c)|(d,e)|f)");
+        spec("((b|c),(d,e))");
+        spec("((b,c),(d|e))");
+        spec("(b|c)><!ELEMENT b (c,d)><!ELEMENT d (e|f)");
     }
 
     private static void rules(String rules, int nodes) {

@@ -89,6 +89,9 @@ public final class JudgingEdgesTest {
         judged(a + "<!ATTLIST a x ID #IMPLIED y ID #IMPLIED>", "<a/>", "4:1");
         judged(a + "<!ATTLIST b x ID #REQUIRED><!ATTLIST b w CDATA #IMPLIED y ID #REQUIRED z ID #IMPLIED>", "<a/>",
                 "4:2 4:3");
+        judged(a + "<!ATTLIST b w CDATA #IMPLIED x ID #IMPLIED y CDATA #IMPLIED z ID #IMPLIED>", "<a/>", "4:3");
+        judged(a + "<!ATTLIST b " + Desk.numbered("r% CDATA #IMPLIED", " ", 8) + " y ID #IMPLIED z ID #IMPLIED>", "<a/>",
+                "4:9");
         // Or one with a VALUE; both together are one FINDING.
         judged(a + "<!ATTLIST b x ID 'v'>", "<a/>", "4:0");
         judged(a + "<!ATTLIST b x ID #FIXED 'v'>", "<a/>", "4:0");
@@ -109,6 +112,9 @@ public final class JudgingEdgesTest {
             judged(b + "ID '" + other + "'>", "<a/>", "4:0 5:0");
             judged(b + "ID #FIXED '" + other + "'>", "<a/>", "4:0 5:0");
         }
+        // An empty one is not what stands behind it.
+        judged(b + "ID '' y CDATA 'v'>", "<a/>", "4:0 5:0");
+        judged(b + "(v) '' y CDATA 'v'>", "<a/>", "5:0");
         String[] tokens = {"one", "2", "-", "o&#110;e"};
         for (String token : tokens) {
             judged(b + "(one|2|-) '" + token + "'>", "<a/>", "");
@@ -260,6 +266,16 @@ public final class JudgingEdgesTest {
         fits("(b,(c?,d?)*,b)", "<b/><d/><c/><c/><d/><b/>", true);
         fits("(b,(c?,d?)*,b)", "<b/><b/><b/>", false);
         fits("((b,c)+)", "<b/><c/><b/>", false);
+        // What one GROUP ends with does not lead into the other one.
+        fits("((b,c)|(d?,c))", "<b/><c/><c/>", false);
+        fits("((b,c)|(d?,c))", "<d/><c/>", true);
+        fits("((b,c)|(d*,c))", "<c/>", true);
+        fits("(b,c,(d?,b))", "<b/><b/>", false);
+        fits("(b,c,(d?,b))", "<b/><c/><b/>", true);
+        // The SIGN of one is not that of the other one.
+        fits("((b|c),(c,d))", "<b/><c/><d/>", true);
+        fits("((b,c),(c|d))", "<b/><c/><d/>", true);
+        fits("((b,c),(c|d))", "<b/><d/>", false);
         // One that is not DETERMINISTIC tells its rows, too.
         judged("<!ELEMENT a ((b,c)|(b,d))><!ELEMENT b EMPTY><!ELEMENT d EMPTY>", "<a><b/><d/></a>", "2:0");
         judged("<!ELEMENT a (b*,b,b)><!ELEMENT b EMPTY>", "<a><b/><b/></a>", "2:0");
@@ -284,6 +300,7 @@ public final class JudgingEdgesTest {
         for (String other : others) {
             judged(all, "<a i='" + other + "'/>", "10:2");
         }
+        judged(all, "<a i='' c='x'/>", "10:2");
         judged(all, "<a t='one'/>", "");
         judged(all, "<a t='2'/>", "");
         String[] none = {"", "on", "ones", "ONE", " 2", "one|2"};

@@ -273,7 +273,7 @@ public final class PathEdgesTest {
         desk.boundPath(1, "//" + Desk.repeat("*//", 12) + "^a");
         desk.boundPath(1, Desk.repeat("../", 12) + "^../..");
         // What begins no STEP is none.
-        String[] none = {"", "[", "1", " ", "]"};
+        String[] none = {"", "[", "1", " ", "]", "{", "`", "~", "-"};
         for (String other : none) {
             desk.illPath(1, twelve + "^" + other);
         }

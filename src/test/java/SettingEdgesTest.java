@@ -161,7 +161,13 @@ public final class SettingEdgesTest {
                 "0.0 1|0.1 2|0.2 3|1.0 4|");
         // An ELEMENT that is no BLOCK is not kept, nor is what has a kept ELEMENT in it.
         isSet("<a>1 2 <b keep='1'>3 4</b></a>", 1, 3, "0.0 1|0.1 2|0.2 3|1.0 4|");
-        isSet("<a>1 2<A><b keep='1'>3 4</b></A></a>", 1, 3, "0.0 1|0.1 2|0.2 3|1.0 4|");
+        String[] beside = {"<A><b keep='1'>3 4</b></A>", "<b keep='1'><A>3 4</A></b>", "<B keep='1'/><A>3 4</A>",
+            "<b keep='1'/><A>3 4</A>", "<A>3 4</A><A keep='1'/>", "<A>3<B keep='1'>4</B></A>"};
+        for (String elements : beside) {
+            isSet("<a>1 2" + (elements.startsWith("<b") ? " " : "") + elements + "</a>", 1, 3, "0.0 1|0.1 2|0.2 3|1.0 4|");
+        }
+        // An ELEMENT keep is no attribute.
+        isSet("<a>1<A><keep>1</keep> 2</A></a>", 1, 2, "0.0 1|0.1 1|1.0 2|");
     }
 
     /** That has n lines, n not above the height. */
@@ -227,9 +233,9 @@ public final class SettingEdgesTest {
         Desk.due("high", desk.lines(), "0.0 1|0.1 2|0.2 3|0.3 4|");
         desk.set(1, 3);
         Desk.due("narrow again", desk.lines(), narrow);
-        desk.read("<a>5</a>");
+        desk.read("<a>5 6 7 8</a>");
         desk.set(1, 3);
-        Desk.due("another DOCUMENT", desk.lines(), "0.0 5|");
+        Desk.due("another DOCUMENT", desk.lines(), "0.0 5|0.1 6|0.2 7|1.0 8|");
     }
 
     /** As many bytes, lines and BLOCKS as a DOCUMENT may have. */
