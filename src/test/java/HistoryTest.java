@@ -37,6 +37,7 @@ public final class HistoryTest {
             settings(random);
         }
         fullAgain();
+        manyNamesAgain();
         Desk.end();
     }
 
@@ -105,5 +106,24 @@ public final class HistoryTest {
             }
             Desk.due("full behind refused ones", other.read(texts[i]), nodes[i]);
         }
+    }
+
+    /** NAMES of one DOCUMENT are none of another one's: those of both would be more than one text can hold. */
+    private static void manyNamesAgain() {
+        StringBuilder text = new StringBuilder("<!DOCTYPE a [");
+        for (int spec = 0; spec < 28; spec++) {
+            text.append("<!ELEMENT a").append(spec).append(" (");
+            for (int i = 0; i < 40; i++) {
+                text.append(i == 0 ? "" : "|").append((char) ('A' + spec % 26)).append((char) ('a' + i % 26))
+                        .append(i < 26 ? "" : "-").append(spec < 26 ? "" : ".");
+            }
+            text.append(")>");
+        }
+        text.append("]><b c='' d='' e='' f='' g='' h='' i='' j=''/>");
+        Desk desk = new Desk();
+        Desk.due("many NAMES", desk.read(text.toString()), 10);
+        Desk.due("few NAMES", desk.read("<a/>"), 2);
+        Desk.due("many NAMES again", desk.read(text.toString()), 10);
+        Desk.due("the last one", desk.name(9), "j");
     }
 }

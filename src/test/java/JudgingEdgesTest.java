@@ -331,7 +331,9 @@ public final class JudgingEdgesTest {
         judged(all, "<a i='x'><a i='x'/></a>", "11:4");
         judged(all, "<a i='x'><b j='x'/><a i='x'/></a>", "11:4 11:6");
         judged(all, "<a><b j='x'/><b/><b j='y'/><a i='y'/></a>", "11:8");
-        // An ID, not what else has the same VALUE.
+        // An ID, not what else has the same VALUE or STRING.
+        judged(all, "<a i='x'>x</a>", "");
+        judged(all, "<a i='x'><b>x</b></a>", "");
         judged(all, "<a c='x' i='x'><a c='x'/></a>", "");
         // What is not of its TYPE gives 10 alone, however often.
         judged(all, "<a i='1'><a i='1'/></a>", "10:2 10:4");
