@@ -23,6 +23,7 @@ public final class CallEdgesTest {
         lineAndAt();
         count();
         twoObjects();
+        lastCall();
         Desk.end();
     }
 
@@ -405,5 +406,23 @@ public final class CallEdgesTest {
         other.set(3, 3);
         other.feed("abc");
         leaves(one, before, 0, -1);
+    }
+
+    /** An object is used for 512 calls: the last of them is answered like the first. */
+    private static void lastCall() {
+        Desk desk = new Desk();
+        String refused = "<a b='" + Desk.repeat("x", 51);
+        for (int turn = 0; turn < 100; turn++) {
+            Desk.due("refused, 4 calls each", desk.read(refused), -1);
+        }
+        for (int turn = 0; turn < 25; turn++) {
+            Desk.due("taken, 4 calls each", desk.read(refused + "'/>"), 3);
+        }
+        for (int call = 501; call <= 506; call++) {
+            Desk.due("call " + call, desk.node(1, 4), 1);
+        }
+        Desk.due("calls 507 to 510", desk.path(2, "/a"), "1");
+        Desk.due("call 511", desk.set(60, 50), 0);
+        Desk.due("call 512", desk.place(), -1);
     }
 }

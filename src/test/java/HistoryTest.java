@@ -38,6 +38,8 @@ public final class HistoryTest {
         }
         fullAgain();
         manyNamesAgain();
+        tokensAgain();
+        manyTokensAgain();
         Desk.end();
     }
 
@@ -125,5 +127,40 @@ public final class HistoryTest {
         Desk.due("few NAMES", desk.read("<a/>"), 2);
         Desk.due("many NAMES again", desk.read(text.toString()), 10);
         Desk.due("the last one", desk.name(9), "j");
+    }
+
+    /** Nor are TOKENS of one DOCUMENT those of a RULE of another one. */
+    private static void tokensAgain() {
+        Desk desk = new Desk();
+        for (int turn = 0; turn < 2; turn++) {
+            Desk.due("three TOKENS", desk.read("<!DOCTYPE a [<!ATTLIST a x (p|q|r) 'r'>]><a/>"), 3);
+            Desk.due("one of them", desk.allFindings(), "7:1");
+        }
+        for (int turn = 0; turn < 2; turn++) {
+            desk.read("<!DOCTYPE a [<!ATTLIST a x (p) 'q' y (q) 'q' z (r) 'p'>]><a x='r' y='q' z='r'/>");
+            Desk.due("one TOKEN each", desk.allFindings(), "5:0 5:2 7:1 10:2");
+        }
+    }
+
+    private static String tokens(int lists) {
+        StringBuilder text = new StringBuilder("<!DOCTYPE a [");
+        for (int list = 0; list < lists; list++) {
+            text.append("<!ATTLIST ").append((char) ('A' + list));
+            for (int i = 0; i < 10; i++) {
+                text.append(' ').append((char) ('A' + i)).append(" (1|2|3|4|5|6|7|8) '8'");
+            }
+            text.append('>');
+        }
+        return text.toString();
+    }
+
+    /** TOKENS of a text that was refused take no room: those of both are more than one text can hold. */
+    private static void manyTokensAgain() {
+        Desk desk = new Desk();
+        String refused = tokens(23);
+        Desk.due("many TOKENS", desk.read(refused), -1);
+        Desk.due("refused at its end", desk.place(), refused.length());
+        Desk.due("many TOKENS again", desk.read(tokens(16) + "]><_/>"), 2);
+        Desk.due("all of them are kept", desk.allFindings(), "6:1 7:1");
     }
 }

@@ -323,6 +323,10 @@ public final class JudgingEdgesTest {
         judged(all, "<a g='q'/>", "10:2");
         judged(all, "<a g='r'/>", "10:2");
         judged(all, "<a e='x'/>", "10:2");
+        // An empty one behind as many bytes as may be.
+        String most = "<!ELEMENT a ANY><!ATTLIST a f CDATA '" + Desk.repeat("v", 2000) + "' e CDATA #FIXED ''>";
+        judged(most, "<a e=''/>", "");
+        judged(most, "<a f='' e=''/>", "");
     }
 
     private static void idsTwice() {
