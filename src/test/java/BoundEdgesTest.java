@@ -282,6 +282,8 @@ public final class BoundEdgesTest {
         Desk.ill("<a b=^c></d><x" + LONGEST + "/>");
         Desk.bound("<^x" + LONGEST + "><a></b>");
         Desk.illByNames("<a></^b><x" + LONGEST + ">&");
+        Desk.illByNames("<a></^b &");
+        Desk.illByNames("<a x='' ^x &");
         Desk.bound(Desk.repeat("<a>", 30) + "<^a x='' x=''>&");
     }
 
